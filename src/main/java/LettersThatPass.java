@@ -211,9 +211,9 @@ public final class LettersThatPass {
             return NONE;
         }
         if (what == 0) {
-            return laws.mustComeBefore(row, place);
+            return laws.howManyTied(row, place, -1);
         }
-        return row.size() - 1 - laws.mustComeBehind(row, place);
+        return row.size() - 1 - laws.howManyTied(row, place, 1);
     }
 
     public long odds(int word, int part) {
@@ -642,6 +642,18 @@ public final class LettersThatPass {
             }
         }
 
+        /** Those from the place on go one further; without room for all nothing is put in. */
+        void insert(int i, int v) {
+            if (i < 0 || i > used || used >= cells.length) {
+                return;
+            }
+            for (int k = used; k > i; k--) {
+                cells[k] = cells[k - 1];
+            }
+            cells[i] = v;
+            used++;
+        }
+
         void addTimes(int v, int n) {
             int most = Math.min(n, cells.length);
             for (int k = 0; k < most; k++) {
@@ -657,9 +669,11 @@ public final class LettersThatPass {
             if (!other.has(from, n)) {
                 return;
             }
-            for (int k = 0; k < n; k++) {
-                add(other.get(from + k));
+            int fit = Math.min(n, cells.length - used);
+            for (int k = 0; k < fit; k++) {
+                cells[used + k] = other.cells[from + k];
             }
+            used += fit;
         }
 
         /** An empty row may be told any number of times, so the room bounds the turns. */
@@ -849,16 +863,6 @@ public final class LettersThatPass {
             return ready;
         }
 
-        int choose(int letters, boolean greatest) {
-            int chosen = NONE;
-            for (int a = 0; a < KINDS; a++) {
-                if ((letters >> a & 1) == 1 && (chosen == NONE || greatest == (rank[a] > rankOf(chosen)))) {
-                    chosen = a;
-                }
-            }
-            return chosen;
-        }
-
         int howManyLow(int letters) {
             int low = 0;
             for (int a = 0; a < KINDS; a++) {
@@ -869,24 +873,14 @@ public final class LettersThatPass {
             return low;
         }
 
-        int mustComeBefore(Row row, int place) {
+        /** How many must stay on that side of a place: ahead of it (step -1), behind it (1). */
+        int howManyTied(Row row, int place, int step) {
             int tied = 1 << row.get(place);
             int many = 0;
-            for (int k = place - 1; k >= 0; k--) {
-                if ((tied & ~passedBy(row.get(k))) != 0) {
-                    tied |= 1 << row.get(k);
-                    many++;
-                }
-            }
-            return many;
-        }
-
-        int mustComeBehind(Row row, int place) {
-            int tied = 1 << row.get(place);
-            int many = 0;
-            for (int k = place + 1; k < row.size(); k++) {
-                if ((tied & ~passedBy(row.get(k))) != 0) {
-                    tied |= 1 << row.get(k);
+            for (int k = place + step; step != 0 && k >= 0 && k < row.size(); k += step) {
+                int letter = row.get(k);
+                if ((tied & ~passedBy(letter)) != 0) {
+                    tied |= 1 << letter;
                     many++;
                 }
             }
@@ -1214,11 +1208,25 @@ public final class LettersThatPass {
         void arrange(Row row, boolean last, Row out) {
             rest.copy(row);
             out.clear();
-            for (int k = rest.size(); k > 0; k--) {
-                int letter = laws.choose(laws.readyLetters(rest), last);
-                rest.removeFirst(letter);
-                out.add(letter);
+            for (int k = 0; k < rest.size(); k++) {
+                int letter = rest.get(k);
+                out.insert(turnToBeTaken(out, letter, last), letter);
             }
+        }
+
+        /**
+         * A LETTER put behind a WORD leaves its TAKING as it is until all that the LETTER doesn't PASS are taken;
+         * from there on it is READY, and taken as soon as its RANK goes ahead of the next one's.
+         */
+        private int turnToBeTaken(Row arranged, int letter, boolean last) {
+            int place = arranged.size();
+            for (int k = arranged.size() - 1; k >= 0 && laws.letPass(letter, arranged.get(k)); k--) {
+                boolean above = laws.rankOf(letter) > laws.rankOf(arranged.get(k));
+                if (above == last) {
+                    place = k;
+                }
+            }
+            return place;
         }
 
         /** ALIKE: two are, just if their LEAST WORDS are the same. */
@@ -1269,7 +1277,7 @@ public final class LettersThatPass {
                 if (both == 0) {
                     break;
                 }
-                int letter = laws.choose(both, false);
+                int letter = Integer.numberOfTrailingZeros(both);
                 left.removeFirst(letter);
                 right.removeFirst(letter);
                 out.add(letter);

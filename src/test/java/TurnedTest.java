@@ -78,6 +78,13 @@ public final class TurnedTest {
         DUE.is("apart", x.apart(0, 1), 1);
         x.undo();
         DUE.is("undone", x.turned(0), 3);
+        Due.rules(x, "ab,cd,ef");
+        DUE.is("each passes another than before", x.turned(0), 4);
+        x.ranks(0, 1);
+        DUE.is("ranks alone", Due.spell(i -> x.turn(0, 1, i)), "bac");
+        x.undo();
+        DUE.is("ranks undone", Due.spell(i -> x.turn(0, 0, i)), "abc");
+        x.undo();
         x.drop();
         x.drop();
         Due.word(x, "aab");
