@@ -620,8 +620,9 @@ public final class LettersThatPass {
             }
         }
 
+        /** Of no places none lacks, wherever they would begin. */
         boolean has(int i, int n) {
-            return i >= 0 && n >= 0 && (long) i + n <= used;
+            return n == 0 || i >= 0 && n > 0 && (long) i + n <= used;
         }
 
         void clear() {

@@ -7,7 +7,9 @@ public final class ListsTest {
         put();
         look();
         from();
+        fromNoNumbers();
         lays();
+        laysNone();
         judge();
         DUE.end();
     }
@@ -104,6 +106,49 @@ public final class ListsTest {
         x.word();
         DUE.refused(x, "five there are", () -> x.from(1, 0, 1), -6);
         DUE.refused(x, "five there are, n -1", () -> x.from(1, 0, -1), -4);
+    }
+
+    /** Places that no LIST has, of which nothing is asked. */
+    private static final int[] AWAY = {1, 3, 40, 41, -1, -40, Integer.MAX_VALUE, Integer.MIN_VALUE};
+
+    private static void fromNoNumbers() {
+        for (int i : AWAY) {
+            LettersThatPass x = new LettersThatPass();
+            uncounted(x, "none from a LIST that is missing, " + i, () -> x.from(0, i, 0), -11);
+            x.list(0, 0);
+            x.list(1, 2);
+            uncounted(x, "none from an empty LIST, " + i, () -> x.from(0, i, 0), 0);
+            uncounted(x, "none from a LIST, " + i, () -> x.from(1, i, 0), 1);
+            DUE.is("an empty WORD", x.at(1, -1), 0);
+            uncounted(x, "one from an empty LIST, " + i, () -> x.from(0, i, 1), -13);
+            DUE.refused(x, "none of no LIST, " + i, () -> x.from(3, i, 0), -1);
+            x.word();
+            x.word();
+            x.word();
+            DUE.refused(x, "none, five there are, " + i, () -> x.from(0, i, 0), -6);
+        }
+        LettersThatPass y = new LettersThatPass();
+        y.list(0, 1);
+        y.put(0, 0, 9);
+        DUE.is("none, and the next is no LETTER", y.from(0, 0, 0), 0);
+    }
+
+    private static void laysNone() {
+        for (int i : AWAY) {
+            LettersThatPass x = Due.with("ab", "", "a");
+            uncounted(x, "none into a LIST that is missing, " + i, () -> x.lays(0, i, 0), -11);
+            x.list(0, 0);
+            x.list(1, 1);
+            x.put(1, 0, 9);
+            uncounted(x, "none into an empty LIST, " + i, () -> x.lays(0, i, 0), 0);
+            uncounted(x, "none into a LIST, " + i, () -> x.lays(1, i, 0), 0);
+            DUE.is("it stays", x.look(1, 0), 9);
+            uncounted(x, "one into an empty LIST, " + i, () -> x.lays(0, i, 1), -13);
+            uncounted(x, "one into a LIST, " + i, () -> x.lays(1, i, 1), -13);
+            DUE.is("it still stays", x.look(1, 0), 9);
+            DUE.refused(x, "none into no LIST, " + i, () -> x.lays(-1, i, 0), -1);
+            DUE.refused(x, "no WORD, " + i, () -> x.lays(0, i, 2), -1);
+        }
     }
 
     private static void lays() {

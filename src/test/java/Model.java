@@ -771,6 +771,16 @@ final class Model {
         return lists[list][i];
     }
 
+    private boolean onePlaceLacks(int list, int i, int n) {
+        for (int k = 0; k < n; k++) {
+            long place = (long) i + k;
+            if (place < 0 || place >= lists[list].length) {
+                return true;
+            }
+        }
+        return false;
+    }
+
     long from(int list, int i, int n) {
         if (list < 0 || list > 2) {
             return no(-1);
@@ -784,15 +794,16 @@ final class Model {
         if (lists[list] == null) {
             return -11;
         }
-        if (i < 0 || i > lists[list].length - n) {
+        if (onePlaceLacks(list, i, n)) {
             return -13;
         }
         StringBuilder w = new StringBuilder();
-        for (int k = i; k < i + n; k++) {
-            if (noLetter(lists[list][k])) {
+        for (int k = 0; k < n; k++) {
+            int number = lists[list][i + k];
+            if (noLetter(number)) {
                 return no(-3);
             }
-            w.append((char) ('a' + lists[list][k]));
+            w.append((char) ('a' + number));
         }
         words.add(w.toString());
         return words.size() - 1;
@@ -806,7 +817,7 @@ final class Model {
             return -11;
         }
         String w = taken(words.get(word), false);
-        if (i < 0 || i > lists[list].length - w.length()) {
+        if (onePlaceLacks(list, i, w.length())) {
             return -13;
         }
         for (int k = 0; k < w.length(); k++) {
