@@ -67,6 +67,10 @@ final class Model {
         }
     }
 
+    int words() {
+        return words.size();
+    }
+
     // ---- what is literal
 
     private boolean passing(char a, char b) {

@@ -3,8 +3,10 @@ import java.util.Random;
 /** Random runs of calls, each answer compared with the literal model's; the seeds are fixed. */
 public final class ModelTest {
     private static final Due DUE = new Due("ModelTest");
-    private static final int RUNS = 1500;
-    private static final int CALLS = 512;
+    private static final int RUNS = 2000;
+    /** An object is good for 512 calls, and a step has fewer than 190. */
+    private static final int CALLS = 512 - 190;
+    private static final int LONGEST_TEXT = 90;
     private static final int[] EDGES = {Integer.MIN_VALUE, Integer.MIN_VALUE + 1, -14, -2, -1, 0, 1, 2, 3, 4, 5, 6, 7, 8,
         12, 13, 14, 15, 39, 40, 41, 59, 60, 61, 72, 255, 256, 613566757, Integer.MAX_VALUE - 1, Integer.MAX_VALUE};
 
@@ -46,7 +48,7 @@ public final class ModelTest {
     }
 
     private int aWord() {
-        int there = x.count(0);
+        int there = m.words();
         return there == 0 ? near(-1, 1) : near(0, random.nextInt(12) == 0 ? there : there - 1);
     }
 
@@ -67,7 +69,7 @@ public final class ModelTest {
     }
 
     private void type(String text) {
-        for (int k = 0; k < text.length(); k++) {
+        for (int k = 0; k < text.length() && k < LONGEST_TEXT; k++) {
             char c = text.charAt(k);
             same("letter " + c, x.letter(c), m.letter(c));
         }
@@ -136,7 +138,7 @@ public final class ModelTest {
     }
 
     private void stepWords() {
-        if (x.count(0) == 5 || random.nextInt(6) == 0) {
+        if (m.words() == 5 || random.nextInt(6) == 0) {
             same("drop", x.drop(), m.drop());
         }
         if (random.nextInt(20) == 0) {
@@ -174,7 +176,7 @@ public final class ModelTest {
         int u = aWord();
         int v = aWord();
         int n = near(0, 3);
-        if (x.count(0) == 5) {
+        if (m.words() == 5) {
             same("drop", x.drop(), m.drop());
         }
         if (random.nextBoolean()) {

@@ -89,6 +89,17 @@ public final class TurnedTest {
         x.drop();
         Due.word(x, "aab");
         DUE.is("another word 0", Due.spell(i -> x.turn(0, 2, i)), "baa");
+        x.image();
+        Due.rules(x, "ab");
+        DUE.is("ab pass", x.turned(0), 1);
+        x.on();
+        DUE.is("on: they don't", x.turned(0), 3);
+        x.drop();
+        Due.word(x, "aabb");
+        DUE.is("a longer word 0", x.turned(0), 4);
+        x.on();
+        DUE.is("on: the word is as then", x.turned(0), 3);
+        DUE.is("on: the word is as then", Due.spell(i -> x.turn(0, 0, i)), "aab");
     }
 
     private static void unlike() {
