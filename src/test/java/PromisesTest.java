@@ -877,6 +877,10 @@ public final class PromisesTest {
         DOC.is("laid", x.look(0, 14), 5);
         DOC.is("the one ahead stays", x.look(0, 13), 1);
         DOC.is("the WORD stays", Due.told(x, 1), "ba");
+        x.ranks(0, 1);
+        DOC.is("two, by RANKS", x.lays(0, 12, 1), 2);
+        DOC.is("b has the lesser RANK", x.look(0, 12), 1);
+        DOC.is("a has the greater RANK", x.look(0, 13), 0);
         DOC.is("none into an empty LIST", x.lays(1, 0, 0), 0);
         DOC.is("none behind the last place", x.lays(0, 15, 0), 0);
         DOC.says("Promise 34", "-1 either; -11; -13 not all have a place (none is laid).");
@@ -894,6 +898,11 @@ public final class PromisesTest {
         }
         DOC.is("14 from 2 on", x.lays(0, 2, 2), -13);
         DOC.is("one into an empty LIST", x.lays(1, 0, 3), -13);
+        x.list(1, 40);
+        DOC.is("14 from 27 on, of 40", x.lays(1, 27, 2), -13);
+        DOC.is("14 from 26 on, of 40", x.lays(1, 26, 2), 14);
+        DOC.is("the last", x.look(1, 39), 0);
+        DOC.is("the first", x.look(1, 26), 1);
         DOC.is("none is laid, first", x.look(0, 0), 0);
         DOC.is("none is laid, last", x.look(0, 14), 5);
         DOC.is("-1", x.count(11), 14);

@@ -275,7 +275,42 @@ public final class RefusalsTest {
         turnedAndCounted();
         listsOfNumbers();
         theImage();
+        faults();
         DUE.end();
+    }
+
+    /** A FAULT takes the letters away, and nothing else. */
+    private static void faults() {
+        LettersThatPass full = prepared();
+        Due.word(full, "abc");
+        String four = Readout.of(prepared());
+        String five = Readout.of(full);
+        String[] texts = {"?", "a?", "(", "(a", "((((((", "a9b6", ")", "7", "a0".repeat(35) + "(a"};
+        int[] dues = {-1000, -1001, -1001, -1002, -1005, -2000, -1000, -1000, -1072};
+        for (int k = 0; k < texts.length; k++) {
+            LettersThatPass x = prepared();
+            fault(x, "word " + texts[k], Due.word(x, texts[k]), dues[k], four);
+            LettersThatPass y = prepared();
+            Due.word(y, "abc");
+            fault(y, "word " + texts[k] + ", five there are", Due.word(y, texts[k]), dues[k], five);
+        }
+        LettersThatPass z = prepared();
+        Due.word(z, "abc");
+        fault(z, "word, five there are", Due.word(z, "ab"), -2000, five);
+        String[] rules = {"", "?", "ab,", "ab,<cd,ef,aa", "<", "ab,".repeat(24)};
+        int[] places = {0, 0, 3, 11, 1, 72};
+        for (int k = 0; k < rules.length; k++) {
+            LettersThatPass x = prepared();
+            fault(x, "rules " + rules[k], Due.rules(x, rules[k]), -1000 - places[k], four);
+        }
+    }
+
+    private static void fault(LettersThatPass x, String call, long got, long want, String untouched) {
+        DUE.is(call, got, want);
+        for (int counted : Readout.refusals(x)) {
+            DUE.is(call + ": not counted", counted, 0);
+        }
+        DUE.is(call + ": what changed", Readout.of(x), untouched);
     }
 
     private static void lettersAndWords() {
