@@ -18,6 +18,7 @@ public final class LettersThatPass {
     private static final int LONGEST_COUNTED = 12;
     private static final int MOST_LOTS = 60;
     private static final int LOW_RANKS = 3;
+    private static final int ALL_BUT_SIGN = 0x7fffffff;
 
     private static final int WHOLE = -1;
     private static final int NOBODY = -1;
@@ -942,7 +943,7 @@ public final class LettersThatPass {
             int times = 0;
             for (int k = 0; k < n; k++) {
                 z = z * 1664525 + 1013904223;
-                int place = (z & Integer.MAX_VALUE) / 256 % below;
+                int place = (z & ALL_BUT_SIGN) / 256 % below;
                 if (letPass(row.get(place), row.get(place + 1))) {
                     row.swapWithNext(place);
                     times++;

@@ -1,13 +1,17 @@
+import java.io.IOException;
 import java.lang.reflect.Constructor;
 import java.lang.reflect.Field;
 import java.lang.reflect.Member;
 import java.lang.reflect.Method;
 import java.lang.reflect.Modifier;
+import java.nio.file.Files;
+import java.nio.file.Path;
 import java.util.TreeSet;
 
 /** The public face is the document's, and nothing of the class beside it can be seen from outside. */
 public final class FaceTest {
     private static final Due DUE = new Due("FaceTest");
+    private static final Path DOCUMENT = Path.of("../shared/DOC.md");
     private static final String FACE = "int letter(int) int passes(int,int) int ranks(int,int) int of(int,int)"
         + " int rules() int word() int at(int,int) int drop() int alike(int,int) int blocks(int,int)"
         + " int least(int,int,int) long copies(int) int seen(int,int,int,int) int spread(int,int,int,int)"
@@ -17,7 +21,7 @@ public final class FaceTest {
         + " int list(int,int) int put(int,int,int) long look(int,int) int from(int,int,int) int lays(int,int,int)"
         + " int judge(int,int) int undo() int image() int on() int count(int)";
 
-    public static void main(String[] args) {
+    public static void main(String[] args) throws IOException {
         TreeSet<String> due = new TreeSet<>();
         String[] words = FACE.split(" ");
         TreeSet<String> names = new TreeSet<>();
@@ -36,6 +40,7 @@ public final class FaceTest {
             }
         }
         DUE.is("methods", got.toString(), due.toString());
+        facesAreOne(due);
         DUE.is("final and public", LettersThatPass.class.getModifiers(), Modifier.PUBLIC | Modifier.FINAL);
         Constructor<?>[] makers = LettersThatPass.class.getDeclaredConstructors();
         DUE.is("constructors", makers.length, 1);
@@ -45,6 +50,27 @@ public final class FaceTest {
         }
         inside(names);
         DUE.end();
+    }
+
+    /** The document's face, line by line: it is the one that is tested here, and stands so in the source. */
+    private static void facesAreOne(TreeSet<String> due) throws IOException {
+        String source = Files.readString(Path.of("src/main/java/LettersThatPass.java"));
+        if (!Files.exists(DOCUMENT)) {
+            return;
+        }
+        String section = Files.readString(DOCUMENT).split("\n## ")[2];
+        DUE.is("the section", section.split("\n")[0], "The public face");
+        TreeSet<String> told = new TreeSet<>();
+        for (String line : section.split("\n")) {
+            if (line.startsWith("public ") || line.startsWith("    public ")) {
+                String start = line.replace(";", " {");
+                DUE.is("stands in the source: " + line, source.contains("\n" + start + "\n") ? 1 : 0, 1);
+            }
+            if (line.matches("    public (int|long) .*;")) {
+                told.add(line.trim().replaceAll("public |;| \\w+(?=[,)])", "").replace(", ", ","));
+            }
+        }
+        DUE.is("the document's methods", told.toString(), due.toString());
     }
 
     private static boolean isHidden(Member member) {

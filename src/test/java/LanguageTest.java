@@ -1,6 +1,9 @@
 import java.io.IOException;
+import java.lang.reflect.Field;
+import java.lang.reflect.Modifier;
 import java.nio.file.Files;
 import java.nio.file.Path;
+import java.util.TreeSet;
 import java.util.regex.Matcher;
 import java.util.regex.Pattern;
 
@@ -23,7 +26,33 @@ public final class LanguageTest {
         }
         methodsAreShort(source.split("\n"));
         nothingIsMadeByCalls(code);
+        libraryIsTheListedOne(code);
+        staticFieldsAreConstants(LettersThatPass.class);
         DUE.end();
+    }
+
+    /** Of Integer, Long and Math functions alone are listed, not their constants; no other class of the library is used. */
+    private static void libraryIsTheListedOne(String code) {
+        TreeSet<String> own = new TreeSet<>();
+        own.add(LettersThatPass.class.getSimpleName());
+        for (Class<?> one : LettersThatPass.class.getDeclaredClasses()) {
+            own.add(one.getSimpleName());
+        }
+        Matcher name = Pattern.compile("\\b([A-Z]\\w*[a-z]\\w*)\\b(\\.\\w+\\(?)?").matcher(code);
+        while (name.find()) {
+            boolean listed = name.group().matches("(Integer|Long|Math)\\.[a-z]\\w*\\(");
+            DUE.is("rule 4: " + name.group(), listed || own.contains(name.group(1)) ? 1 : 0, 1);
+        }
+    }
+
+    private static void staticFieldsAreConstants(Class<?> one) {
+        for (Field field : one.getDeclaredFields()) {
+            boolean constant = Modifier.isFinal(field.getModifiers()) && field.getType().isPrimitive();
+            DUE.is("rule 5: " + field, !Modifier.isStatic(field.getModifiers()) || constant ? 1 : 0, 1);
+        }
+        for (Class<?> inside : one.getDeclaredClasses()) {
+            staticFieldsAreConstants(inside);
+        }
     }
 
     private static void methodsAreShort(String[] lines) {

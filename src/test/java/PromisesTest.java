@@ -16,9 +16,18 @@ public final class PromisesTest {
         listsOfNumbers();
         theImage();
         for (int number = 1; number <= 39; number++) {
-            DOC.wholePromise(number);
+            DOC.whole("Promise " + number);
         }
+        sectionsAreKnown();
         DOC.end();
+    }
+
+    /** A section more would be one that no test knows; what isn't promised has none. */
+    private static void sectionsAreKnown() {
+        for (String title : DOC.titles()) {
+            boolean known = title.matches("# LettersThatPass|What it is|The public face|Terms|Promise \\d+|Not promised");
+            DOC.is("a section that is known: " + title, known ? 1 : 0, 1);
+        }
     }
 
     private static void lettersAndWords() {

@@ -1,8 +1,9 @@
 import java.io.IOException;
 import java.nio.file.Files;
 import java.nio.file.Path;
-import java.util.HashMap;
+import java.util.LinkedHashMap;
 import java.util.Map;
+import java.util.Set;
 
 /**
  * Sentences of the document, each with the answers that it asks for. What is quoted must stand in the document, so
@@ -12,8 +13,8 @@ final class Sentences {
     private static final Path DOCUMENT = Path.of("../shared/DOC.md");
 
     private final Due due;
-    private final Map<String, String> sections = new HashMap<>();
-    private final Map<String, String> unquoted = new HashMap<>();
+    private final Map<String, String> sections = new LinkedHashMap<>();
+    private final Map<String, String> unquoted = new LinkedHashMap<>();
     private String sentence = "";
 
     Sentences(String test) {
@@ -29,11 +30,16 @@ final class Sentences {
                 String title = section.split("[:\n]", 2)[0];
                 String body = section.replaceAll("\\s+", " ");
                 sections.put(title, body);
-                unquoted.put(title, body.replaceFirst("^.*?`[^`]*`: ", ""));
+                unquoted.put(title, title.startsWith("Promise") ? body.replaceFirst("^.*?`[^`]*`: ", "") : plain(body, title));
             }
         } catch (IOException e) {
             throw new IllegalStateException(e);
         }
+    }
+
+    /** Without the marks that stand between sentences: ====, a number, and how the page is set. */
+    private static String plain(String body, String title) {
+        return body.substring(title.length()).replaceAll("==== \\d |```(text)?", "");
     }
 
     /** The answers that follow are those that this sentence asks for. */
@@ -54,12 +60,16 @@ final class Sentences {
         due.is("[" + sentence + "] " + call, got, want);
     }
 
-    /** Of a promise each sentence has been quoted. */
-    void wholePromise(int number) {
-        String title = "Promise " + number;
+    /** Each sentence of a section has been quoted. */
+    void whole(String title) {
         if (!sections.isEmpty()) {
             due.is("sentences without a test: " + title, unquoted.getOrDefault(title, "?").trim(), "");
         }
+    }
+
+    /** The titles of the document's sections; none if there is no document. */
+    Set<String> titles() {
+        return sections.keySet();
     }
 
     void end() {

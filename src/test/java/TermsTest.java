@@ -1,13 +1,20 @@
+import java.io.IOException;
 import java.math.BigInteger;
+import java.nio.file.Files;
+import java.nio.file.Path;
 
-/** Each sentence of the document's terms that names a boundary case. */
+/**
+ * Each sentence of what the class is and of its terms, at its edges; that none is left out is tested against the
+ * document.
+ */
 public final class TermsTest {
     private static final Sentences DOC = new Sentences("TermsTest");
     private static final String ALL_PASS = "ab,ac,ad,ae,af,bc,bd,be,bf,cd,ce,cf,de,df,ef";
     private static final int MIN = Integer.MIN_VALUE;
     private static final int MAX = Integer.MAX_VALUE;
 
-    public static void main(String[] args) {
+    public static void main(String[] args) throws IOException {
+        tour();
         calls();
         letters();
         passingItself();
@@ -26,14 +33,15 @@ public final class TermsTest {
         changes();
         root();
         parts();
+        moves();
         turned();
         apart();
         unlike();
         free();
         wordTexts();
         wordItems();
-        wordsOneByOne();
         wordDigits();
+        wordsOneByOne();
         wordBrackets();
         wordFaults();
         wordRoom();
@@ -44,19 +52,79 @@ public final class TermsTest {
         fromAList();
         lots();
         draws();
+        lotsThatPass();
         odds();
         undone();
         undoneEight();
         theImage();
         fractions();
         refusals();
+        nobodyAndOther();
+        stateBelowAndRoom();
         longRefusals();
         notCounted();
+        groups();
+        DOC.whole("What it is");
+        DOC.whole("Terms");
         DOC.end();
     }
 
+    private static void tour() {
+        DOC.says("What it is", "Letters some of which may pass: words that are alike by changing neighbours that pass, their"
+            + " blocks, least and last words by an order of the letters, how many are alike, what is seen of two letters"
+            + " alone;");
+        LettersThatPass x = Due.with("", "cacab", "acacb", "aa");
+        DOC.is("they don't PASS", x.alike(0, 1), 0);
+        DOC.is("a and c PASS", x.passes(0, 2), 1);
+        DOC.is("ALIKE then", x.alike(0, 1), 1);
+        DOC.is("BLOCKS", x.blocks(0, -1), 3);
+        DOC.is("BLOCK 0", x.blocks(0, 0), 1 + 4);
+        DOC.is("LEAST WORD", Due.least(x, 0, 0), "aaccb");
+        DOC.is("LAST WORD", Due.least(x, 0, 1), "ccaab");
+        DOC.is("COPIES", x.copies(0), 6);
+        DOC.is("SEEN", Due.spell(i -> x.seen(0, 0, 1, i)), "aab");
+        DOC.says("What it is", "beginnings, what is left, common ones, products, powers, roots;");
+        DOC.is("BEGINS", x.begins(0, 2, -1), 1);
+        DOC.is("REST", Due.spell(i -> x.begins(0, 2, i)), "ccb");
+        DOC.is("COMMON", Due.spell(i -> x.common(0, 2, i)), "aa");
+        DOC.is("PRODUCT", x.product(2, 0), 3);
+        DOC.is("POWER", x.power(2, 3), 4);
+        DOC.is("PRODUCT, told", Due.told(x, 3), "aacacab");
+        DOC.is("ROOT", x.root(4, -1), 6);
+        tourGoesOn(x);
+    }
+
+    private static void tourGoesOn(LettersThatPass x) {
+        DOC.says("What it is", "words turned about letter by letter, how many, how far apart;");
+        x.drop();
+        Due.word(x, "bcaca");
+        DOC.is("TURNED: 0 to 2 of each a and c are ahead of b", x.turned(0), 9);
+        DOC.is("APART", x.apart(0, 4), 4);
+        DOC.says("What it is", "parts that hang together, words that pass one another whole;");
+        DOC.is("PARTS", x.parts(0, -1), 1);
+        DOC.is("the one of a", x.parts(0, 0), 7);
+        DOC.is("CHANGE", x.changes(2, 3), 0);
+        DOC.says("What it is", "how many unlike words there are;");
+        DOC.is("UNLIKE: ac and ca are one", x.unlike(2, 3), 8);
+        DOC.says("What it is", "words with brackets read from letters, lists, lots, odds, changes undone, an image.");
+        x.drop();
+        DOC.is("brackets", Due.word(x, "((ca)2b)"), 4);
+        DOC.is("told", Due.told(x, 4), "cacab");
+        x.list(2, 7);
+        DOC.is("LISTS", x.lays(2, 1, 4), 5);
+        DOC.is("laid", x.look(2, 5), 1);
+        DOC.is("LOTS", x.lots(2, 60, 1, 0), 0);
+        DOC.is("ODDS", x.odds(0, 0) + x.odds(0, 1), 2);
+        DOC.is("THE IMAGE", x.image(), 5);
+        DOC.is("UNDONE", x.undo(), 0);
+        DOC.is("not ALIKE any more", x.alike(0, 1), 0);
+        DOC.is("ON", x.on(), 5);
+        DOC.is("ALIKE again", x.alike(0, 1), 1);
+    }
+
     private static void calls() {
-        DOC.says("What it is", "An object is used for at most 512 calls after it has been made");
+        DOC.says("What it is", "An object is used for at most 512 calls after it has been made; what later calls answer is"
+            + " free.");
         LettersThatPass x = new LettersThatPass();
         for (int k = 1; k < 512; k++) {
             x.at(0, 0);
@@ -70,7 +138,8 @@ public final class TermsTest {
     }
 
     private static void letters() {
-        DOC.says("Terms", "5 (a .. f in texts)");
+        DOC.says("What it is", "LETTERS are 0 ..");
+        DOC.says("Terms", "5 (a .. f in texts).");
         LettersThatPass x = Due.with("", "abcdef");
         for (int a = 0; a < 6; a++) {
             DOC.is("LETTER in the text, " + a, x.at(0, a), a);
@@ -104,7 +173,7 @@ public final class TermsTest {
     }
 
     private static void order() {
-        DOC.says("Terms", "each LETTER has a RANK 0 .. 5 of its own (its number at first)");
+        DOC.says("Terms", "THE ORDER: each LETTER has a RANK 0 .. 5 of its own (its number at first).");
         LettersThatPass x = new LettersThatPass();
         for (int a = 0; a < 6; a++) {
             DOC.is("at first", x.of(a, 0), a);
@@ -123,7 +192,7 @@ public final class TermsTest {
     }
 
     private static void words() {
-        DOC.says("Terms", "WORDS have numbers, 0 .. as they come, 5 at most");
+        DOC.says("Terms", "WORDS have numbers, 0 .. as they come, 5 at most:");
         LettersThatPass x = new LettersThatPass();
         x.list(0, 1);
         DOC.is("by letters", x.word(), 0);
@@ -161,7 +230,8 @@ public final class TermsTest {
     }
 
     private static void alike() {
-        DOC.says("Terms", "by changing two neighbours that PASS, any number of times (none, too)");
+        DOC.says("Terms", "Two WORDS are ALIKE, if the one becomes the other by changing two neighbours that PASS, any number of"
+            + " times (none, too).");
         LettersThatPass x = Due.with("ab", "a7b7", "b7a7", "ca", "ac", "");
         DOC.is("by 49 changes", x.alike(0, 1), 1);
         DOC.is("back again", x.alike(1, 0), 1);
@@ -198,12 +268,13 @@ public final class TermsTest {
     }
 
     private static void taking() {
-        DOC.says("Terms", "of the READY places, the one whose LETTER has the least RANK is taken");
+        DOC.says("Terms", "TAKING: again and again, of the READY places, the one whose LETTER has the least RANK is taken (away, the"
+            + " others stay in order): LETTERS as they are taken are its LEAST WORD;");
         LettersThatPass x = Due.with("ac,bc", "cba", "", "cbacba");
         DOC.is("not the least of all ALIKE, but READY ones alone", Due.least(x, 0, 0), "bac");
         DOC.is("of an empty WORD", Due.least(x, 1, 0), "");
         DOC.is("again and again", Due.least(x, 2, 0), "babacc");
-        DOC.says("Terms", "by the greatest RANK: its LAST WORD");
+        DOC.says("Terms", "by the greatest RANK: its LAST WORD.");
         DOC.is("LAST WORD", Due.least(x, 0, 1), "cba");
         DOC.is("of an empty WORD", Due.least(x, 1, 1), "");
         DOC.is("again and again", Due.least(x, 2, 1), "ccbaba");
@@ -241,7 +312,8 @@ public final class TermsTest {
     }
 
     private static void spread() {
-        DOC.says("Terms", "SPREAD of a LETTER's n-th time (n from 0) in a WORD");
+        DOC.says("Terms", "SPREAD of a LETTER's n-th time (n from 0) in a WORD: the least, the greatest place at which the LETTER"
+            + " stands for the n-th time in any WORD that is ALIKE;");
         LettersThatPass x = Due.with("ab,ac", "abcab", "", "a7b7", "a9a5");
         DOC.is("time 0, least", x.spread(0, 0, 0, 0), 0);
         DOC.is("time 0, greatest", x.spread(0, 0, 0, 1), 3);
@@ -260,7 +332,7 @@ public final class TermsTest {
     }
 
     private static void begins() {
-        DOC.says("Terms", "a WORD v BEGINS with u, if v is ALIKE some u w (u, then w); REST: the LEAST WORD of that w.");
+        DOC.says("Terms", "BEGINS: a WORD v BEGINS with u, if v is ALIKE some u w (u, then w); REST: the LEAST WORD of that w.");
         LettersThatPass x = Due.with("ac,bc", "", "ab", "cab", "aba", "abcab");
         DOC.is("an empty one, with an empty one", x.begins(0, 0, -1), 1);
         DOC.is("each, with an empty one", x.begins(2, 0, -1), 1);
@@ -341,7 +413,8 @@ public final class TermsTest {
     }
 
     private static void parts() {
-        DOC.says("Terms", "hang together, if they don't PASS, and by way of others that stand there");
+        DOC.says("Terms", "PARTS: LETTERS that stand in a WORD hang together, if they don't PASS, and by way of others that stand"
+            + " there: how many PARTS;");
         LettersThatPass x = Due.with("ac,ad,bd", "ac", "abc", "abcd", "", "aa");
         DOC.is("two that PASS", x.parts(0, -1), 2);
         DOC.is("by way of one that stands there", x.parts(1, 0), 7);
@@ -349,7 +422,7 @@ public final class TermsTest {
         DOC.is("by way of two", x.parts(2, 0), 15);
         DOC.is("empty", x.parts(3, -1), 0);
         DOC.is("one LETTER", x.parts(4, -1), 1);
-        DOC.says("Terms", "(bits of LETTERS; 0: it doesn't stand there)");
+        DOC.says("Terms", "the one of a LETTER (bits of LETTERS; 0: it doesn't stand there).");
         DOC.is("doesn't stand there", x.parts(0, 1), 0);
         DOC.is("doesn't stand in an empty one", x.parts(3, 0), 0);
         LettersThatPass y = Due.with(ALL_PASS, "abcdef");
@@ -374,8 +447,32 @@ public final class TermsTest {
         }
     }
 
+    private static void moves() {
+        DOC.says("Terms", "TURNED: a MOVE of a WORD takes the LETTER of a READY place to its end, then the LEAST WORD of that is"
+            + " taken.");
+        LettersThatPass x = Due.with("ab", "bac", "bca", "acb", "cba");
+        int[][] due = {{0, 1, 1, 2}, {2, 0, 3, 1}, {2, 3, 0, 1}, {1, 2, 2, 0}};
+        for (int u = 0; u < due.length; u++) {
+            for (int v = 0; v < due.length; v++) {
+                DOC.is("c of abc isn't READY, b is: from " + u + " to " + v, x.apart(u, v), due[u][v]);
+            }
+        }
+        String[] byNumbers = {"abc", "acb", "bca", "cab"};
+        String[] byRanks = {"acb", "bac", "bca", "cba"};
+        for (int k = 0; k < byNumbers.length; k++) {
+            int number = k;
+            DOC.is("LEAST WORDS", Due.spell(i -> x.turn(0, number, i)), byNumbers[k]);
+        }
+        x.ranks(0, 1);
+        for (int k = 0; k < byRanks.length; k++) {
+            int number = k;
+            DOC.is("LEAST WORDS by other RANKS", Due.spell(i -> x.turn(0, number, i)), byRanks[k]);
+        }
+    }
+
     private static void turned() {
-        DOC.says("Terms", "Of a WORD of 7 LETTERS at most: all WORDS to which MOVES lead (from its LEAST WORD on, that too)");
+        DOC.says("Terms", "Of a WORD of 7 LETTERS at most: all WORDS to which MOVES lead (from its LEAST WORD on, that too): how"
+            + " many;");
         LettersThatPass x = Due.with("ab", "", "f", "ba", "abcdefa", "abcdefaf");
         DOC.is("empty: itself", x.turned(0), 1);
         DOC.is("one LETTER: itself", x.turned(1), 1);
@@ -383,7 +480,7 @@ public final class TermsTest {
         DOC.is("that alone", x.turned(2), 1);
         DOC.is("7 LETTERS: a, a and b apart from one another between f and c, and three more", x.turned(3), 3 * 2 + 3);
         DOC.is("8 LETTERS", x.turned(4), -6);
-        DOC.says("Terms", "the i-th of them, by LETTERS as numbers, place by place, the least first");
+        DOC.says("Terms", "the i-th of them, by LETTERS as numbers, place by place, the least first;");
         LettersThatPass y = Due.with("<ac", "cab", "a6f");
         String[] due = {"abc", "bca", "cab"};
         for (int k = 0; k < due.length; k++) {
@@ -422,8 +519,8 @@ public final class TermsTest {
     }
 
     private static void unlike() {
-        DOC.says("Terms", "how many WORDS of n LETTERS (0 .. 12), each one of the LETTERS 0 .. m less 1 (m 1 .. 6), there are,"
-            + " ALIKE ones counted once.");
+        DOC.says("Terms", "UNLIKE of n: how many WORDS of n LETTERS (0 .. 12), each one of the LETTERS 0 .. m less 1 (m 1 .. 6),"
+            + " there are, ALIKE ones counted once.");
         LettersThatPass x = new LettersThatPass();
         long power = 1;
         for (int n = 0; n <= 12; n++) {
@@ -457,7 +554,7 @@ public final class TermsTest {
     }
 
     private static void wordTexts() {
-        DOC.says("Terms", "A WORD is told in letters (72 at most), without blanks");
+        DOC.says("Terms", "A WORD is told in letters (72 at most), without blanks:");
         LettersThatPass x = new LettersThatPass();
         DOC.is("a blank alone", Due.word(x, " "), -1000);
         DOC.is("a blank ahead", Due.word(x, " a"), -1000);
@@ -474,7 +571,7 @@ public final class TermsTest {
     }
 
     private static void wordItems() {
-        DOC.says("Terms", "ITEMS, none too; ITEM: a .. f, or (, ITEMS, )");
+        DOC.says("Terms", "ITEMS, none too; ITEM: a .. f, or (, ITEMS, );");
         String[][] pairs = {{"", ""}, {"()", ""}, {"()()", ""}, {"(())", ""}, {"a()b", "ab"}, {"(a)", "a"},
             {"(ab)(c)", "abc"}, {"(a(b)c)", "abc"}, {"a", "a"}, {"f", "f"}};
         LettersThatPass x = new LettersThatPass();
@@ -500,7 +597,7 @@ public final class TermsTest {
     }
 
     private static void wordDigits() {
-        DOC.says("Terms", "behind either perhaps a digit 0 .. 9: so many times (0: not at all)");
+        DOC.says("Terms", "behind either perhaps a digit 0 .. 9: so many times (0: not at all).");
         for (int times = 0; times <= 9; times++) {
             LettersThatPass x = Due.with("", "d" + times, "c(b)" + times + "c", "()" + times, "(((((e)))))" + times);
             DOC.is("a LETTER times " + times, Due.told(x, 0), "d".repeat(times));
@@ -531,8 +628,8 @@ public final class TermsTest {
     }
 
     private static void wordFaults() {
-        DOC.says("Terms", "the place (from 0) of the first letter with which no such text goes on (the number of letters, if"
-            + " something lacks): -1000 less it");
+        DOC.says("Terms", "FAULT: kind 1 the place (from 0) of the first letter with which no such text goes on (the number of"
+            + " letters, if something lacks): -1000 less it;");
         LettersThatPass x = new LettersThatPass();
         String filler = "a0".repeat(35);
         DOC.is("place 0", Due.word(x, ")a"), -1000);
@@ -577,7 +674,7 @@ public final class TermsTest {
     }
 
     private static void ruleTexts() {
-        DOC.says("Terms", "RULE, then any number of , and RULE");
+        DOC.says("Terms", "RULES are told in letters likewise: RULE, then any number of , and RULE:");
         LettersThatPass x = new LettersThatPass();
         DOC.is("one", Due.rules(x, "ab"), 1);
         DOC.is("two", Due.rules(x, "cd,ef"), 2);
@@ -587,7 +684,7 @@ public final class TermsTest {
         DOC.is("18 of RANKS, 71 letters", Due.rules(x, "<ab,".repeat(17) + "<ef"), 18);
         DOC.is("17 times <ab", x.of(0, 0), 0);
         DOC.is("a text counts once", x.count(4), 4);
-        DOC.says("Terms", "two unlike a .. f: they PASS, or, if they do, don't any more");
+        DOC.says("Terms", "two unlike a .. f: they PASS, or, if they do, don't any more;");
         LettersThatPass y = new LettersThatPass();
         Due.rules(y, "fa");
         DOC.is("a PASSES f", y.of(0, 1), 32);
@@ -666,7 +763,8 @@ public final class TermsTest {
     }
 
     private static void judged() {
-        DOC.says("Terms", "the first place that is otherwise (that isn't there, too); -9 (also if it tells fewer).");
+        DOC.says("Terms", "JUDGED: a LIST tells LETTERS of a WORD from place 0 on: the first place that is otherwise (that isn't"
+            + " there, too); -9 (also if it tells fewer).");
         LettersThatPass x = Due.with("ab", "ba", "", "(ba)7");
         x.list(0, 2);
         x.put(0, 0, 1);
@@ -689,7 +787,7 @@ public final class TermsTest {
     }
 
     private static void fromAList() {
-        DOC.says("Terms", "its numbers from a place on, as many as are told, are a WORD more; they must be LETTERS.");
+        DOC.says("Terms", "FROM A LIST: its numbers from a place on, as many as are told, are a WORD more; they must be LETTERS.");
         LettersThatPass x = new LettersThatPass();
         x.list(0, 40);
         for (int i = 0; i < 40; i++) {
@@ -731,7 +829,7 @@ public final class TermsTest {
 
     /** A pair that PASSES at one place alone tells whether the DRAW was that place. */
     private static void draws() {
-        DOC.says("Terms", "the first one's place a DRAW below its length less 1");
+        DOC.says("Terms", "(the first one's place a DRAW below its length less 1)");
         int[] seeds = {MIN, MIN + 1, -2147480000, -1000000007, -256, -1, 0, 1, 255, 256, 77777, 1000000007, MAX - 1, MAX};
         for (int length = 2; length <= 14; length++) {
             for (int place = 0; place < length - 1; place++) {
@@ -742,8 +840,8 @@ public final class TermsTest {
                 }
             }
         }
-        DOC.says("Terms", "z becomes z times 1664525, plus 1013904223 (an int); (z without its sign's bit divided by 256, cut)"
-            + " modulo m.");
+        DOC.says("Terms", "A DRAW below m: z becomes z times 1664525, plus 1013904223 (an int); (z without its sign's bit divided by"
+            + " 256, cut) modulo m.");
         LettersThatPass x = Due.with(ALL_PASS, "abcdefabcdefab");
         for (int z : seeds) {
             for (int n = 1; n <= 6; n++) {
@@ -752,6 +850,24 @@ public final class TermsTest {
                 DOC.is("times " + n + ", seed " + z, x.lots(0, n, z, 0), times);
                 DOC.is("places " + n + ", seed " + z, x.lots(0, n, z, 1), otherwise(row, "abcdefabcdefab"));
             }
+        }
+    }
+
+    /** Of acb and bca no neighbours PASS; of abc and bac those at place 0 do. */
+    private static void lotsThatPass() {
+        DOC.says("Terms", "change, if they PASS: how often they did; how many places are otherwise then than they were.");
+        LettersThatPass x = Due.with("ab", "abc", "bac", "acb");
+        for (int seed = -20; seed <= 20; seed++) {
+            int n = 21 + seed;
+            int times = 0;
+            BigInteger z = BigInteger.valueOf(seed);
+            for (int k = 0; k < n; k++) {
+                z = next(z);
+                times += cut(z, 2) == 0 ? 1 : 0;
+            }
+            DOC.is("how often, " + n, x.lots(0, n, seed, 0), times);
+            DOC.is("places, " + n, x.lots(1, n, seed, 1), times % 2 * 2);
+            DOC.is("none PASS, " + n, x.lots(2, n, seed, 0) + x.lots(2, n, seed, 1), 0);
         }
     }
 
@@ -795,8 +911,8 @@ public final class TermsTest {
     }
 
     private static void odds() {
-        DOC.says("Terms", "how likely the LETTER at a READY place, any of these alike, has RANK 0, 1 or 2: a fraction (0 by 1 of"
-            + " an empty WORD).");
+        DOC.says("Terms", "ODDS: how likely the LETTER at a READY place, any of these alike, has RANK 0, 1 or 2: a fraction (0 by 1"
+            + " of an empty WORD).");
         LettersThatPass x = Due.with(ALL_PASS, "", "a", "c", "d", "abcdef");
         long[][] due = {{0, 1}, {1, 1}, {1, 1}, {0, 1}, {1, 2}};
         for (int word = 0; word < due.length; word++) {
@@ -822,7 +938,7 @@ public final class TermsTest {
 
     private static void undone() {
         DOC.says("Terms", "What passes(), ranks(), RULES made can be UNDONE (each call, or text without FAULT, at once, the"
-            + " latest first, 8 at most, older ones no more)");
+            + " latest first, 8 at most, older ones no more):");
         LettersThatPass x = Due.with("ab,<ab,ac");
         DOC.is("a text at once", x.count(4), 1);
         Due.rules(x, "ab,<ab,");
@@ -940,8 +1056,8 @@ public final class TermsTest {
     }
 
     private static void refusals() {
-        DOC.says("Terms", "the call answers the number, the first that fits in the order in which it tells them; nothing changes"
-            + " but how many there were");
+        DOC.says("Terms", "REFUSALS (the call answers the number, the first that fits in the order in which it tells them; nothing"
+            + " changes but how many there were):");
         LettersThatPass x = Due.with("", "a8");
         DOC.is("-1 ahead of -4, -2", x.least(1, -1, 2), -1);
         DOC.is("-4 ahead of -2", x.least(0, -1, 2), -4);
@@ -958,6 +1074,57 @@ public final class TermsTest {
             x.drop();
         }
         DOC.is("they are counted on and on", x.count(13), 300);
+    }
+
+    private static void nobodyAndOther() {
+        DOC.says("Terms", "-1 NOBODY: no such LETTER, WORD, LIST, two LETTERS that are one.");
+        LettersThatPass x = Due.with("", "a");
+        int[] nobody = {x.of(6, 0), x.seen(0, 0, -1, 0), x.spread(0, 6, 0, 0), x.parts(0, 6), x.at(1, 0), x.alike(0, -1),
+            x.turned(5), x.list(3, 1), x.judge(-1, 0), x.passes(2, 2), x.ranks(0, 0)};
+        for (int answer : nobody) {
+            DOC.is("NOBODY", answer, -1);
+        }
+        DOC.is("how many", x.count(11), nobody.length);
+        DOC.says("Terms", "-2 OTHER: what, part.");
+        int[] other = {x.of(0, 2), x.least(0, 0, -1), x.spread(0, 0, 0, 2), x.lots(0, 1, 0, 2)};
+        for (int answer : other) {
+            DOC.is("OTHER", answer, -2);
+        }
+        DOC.is("of longs", x.odds(0, -1), Due.FAR + 2);
+        DOC.is("how many", x.count(12), other.length + 1);
+    }
+
+    private static void stateBelowAndRoom() {
+        DOC.says("Terms", "-3 STATE: it is not as it must be.");
+        LettersThatPass x = new LettersThatPass();
+        int none = x.drop();
+        x.word();
+        x.list(0, 1);
+        x.put(0, 0, 6);
+        int[] state = {none, x.root(0, -1), x.lots(0, 1, 0, 0), x.from(0, 0, 1), x.undo(), x.on()};
+        for (int answer : state) {
+            DOC.is("STATE", answer, -3);
+        }
+        DOC.is("how many", x.count(13), state.length);
+        DOC.says("Terms", "-4 BELOW: a number below the least.");
+        int[] below = {x.letter(-1), x.at(0, -2), x.blocks(0, -2), x.least(0, -1, 0), x.seen(0, 0, 0, -1),
+            x.spread(0, 0, -1, 0), x.begins(0, 0, -2), x.common(0, 0, -2), x.power(0, -1), x.root(0, -2), x.turn(0, -1, 0),
+            x.turn(0, 0, -1), x.lots(0, 0, 0, 0), x.from(0, 0, -1)};
+        for (int answer : below) {
+            DOC.is("BELOW", answer, -4);
+        }
+        DOC.is("of longs", x.unlike(-1, 1), Due.FAR + 4);
+        DOC.is("how many", x.count(14), below.length + 1);
+        DOC.says("Terms", "-6 ROOM: a number above the greatest, no room.");
+        Due.word(x, "a8");
+        int[] room = {x.letter(256), x.product(1, 1), x.power(1, 2), x.turned(1), x.turn(1, 0, 0), x.apart(0, 1),
+            x.lots(1, 61, 0, 0), x.list(0, 41), x.from(0, 0, 15)};
+        for (int answer : room) {
+            DOC.is("ROOM", answer, -6);
+        }
+        DOC.is("of longs", x.unlike(13, 1), Due.FAR + 6);
+        DOC.is("how many", x.count(16), room.length + 1);
+        DOC.is("no REFUSAL -5", x.count(15), 0);
     }
 
     private static void longRefusals() {
@@ -996,5 +1163,36 @@ public final class TermsTest {
         for (int what = 11; what <= 16; what++) {
             DOC.is("none, " + what, x.count(what), 0);
         }
+    }
+
+    /** What the interface says stands in the source, ahead of the calls that it names. */
+    private static void groups() throws IOException {
+        String source = Files.readString(Path.of("src/main/java/LettersThatPass.java"));
+        String[][] groups = {
+            {"letters, words", "letter", "passes", "ranks", "of", "rules", "word", "at", "drop"},
+            {"blocks, least words", "alike", "blocks", "least", "copies", "seen", "spread", "odds"},
+            {"beginnings, products, roots", "begins", "common", "product", "power", "changes", "root", "parts"},
+            {"turned, counted", "turned", "turn", "apart", "unlike", "free", "lots"},
+            {"lists of numbers", "list", "put", "look", "from", "lays", "judge"},
+            {"the image", "undo", "image", "on", "count"}};
+        int ahead = 0;
+        for (String[] group : groups) {
+            int place = source.indexOf("// ---- " + group[0] + "\n");
+            DOC.is("in the document's order: " + group[0], place > ahead ? 1 : 0, 1);
+            StringBuilder calls = new StringBuilder();
+            for (int k = 1; k < group.length; k++) {
+                calls.append(k > 1 ? ", `" : "`").append(group[k]).append('`');
+                ahead = place;
+                place = placeOfCall(source, group[k]);
+                DOC.is("in the document's order: " + group[k], place > ahead ? 1 : 0, 1);
+            }
+            ahead = place;
+            DOC.says("Terms", "Ahead of the calls " + calls + " the interface says: ---- " + group[0] + ".");
+        }
+    }
+
+    private static int placeOfCall(String source, String name) {
+        int place = source.indexOf("public int " + name + "(");
+        return place >= 0 ? place : source.indexOf("public long " + name + "(");
     }
 }
